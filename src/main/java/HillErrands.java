@@ -1504,6 +1504,8 @@ public final class HillErrands {
          * What some places want more than their bringers can carry lacks whatever is done, and the
          * most of that is all that lacks (the cut and the flow are one). Each set of places that
          * counts is all that want and have no bringer but some people: so the people are gone through.
+         * Of like sets the fewest places are in all the others (for what two such sets share is one,
+         * too), so are their bringers, and so these people come first by number.
          */
         void lookFrom(int well) {
             ways.freshen(0);
@@ -1513,7 +1515,7 @@ public final class HillErrands {
             for (int some = 0; some < 1 << folk.people; some++) {
                 int set = servedAloneBy(some);
                 int more = wantedBy(set) - carriedBy(some);
-                if (more > lack || more == lack && isLess(set, dry)) {
+                if (more > lack) {
                     lack = more;
                     dry = set;
                 }
@@ -1565,11 +1567,6 @@ public final class HillErrands {
                 }
             }
             return sum;
-        }
-
-        private static boolean isLess(int a, int b) {
-            int fewer = Integer.bitCount(b) - Integer.bitCount(a);
-            return fewer > 0 || fewer == 0 && a < b;
         }
     }
 
