@@ -2,6 +2,9 @@ import java.io.IOException;
 
 /** The sentences about people, things and water: promises 13 to 18. */
 public final class FolkSentenceTests {
+  /** By person and thing. */
+  private static final int[][] BROUGHT = new int[8][8];
+
   public static void main(String[] args) throws IOException {
     people();
     peopleBounds();
@@ -14,6 +17,7 @@ public final class FolkSentenceTests {
     sentMost();
     sentCost();
     sentRow();
+    sentOfAllRows();
     sentByOthers();
     sentWhats();
     sentSets();
@@ -291,6 +295,30 @@ public final class FolkSentenceTests {
     Ask.due("COST", x.sent(3, 10), 0);
     Ask.due("thing 0: not the first PERSON", x.sent(3, 0), 1);
     Ask.due("thing 1", x.sent(3, 1), 0);
+    // PERSON 1 comes by both for nothing, 2 by THING 0 for 4 and by THING 1 for 100, 0 by none
+    HillErrands v = Ask.town(0, 96, 100, 7);
+    Ask.row(v, 0, 0, 1, 2);
+    v.person(3, 3, 0);
+    v.person(0, 2, 0);
+    v.person(2, 2, 0);
+    v.thing(0, 1, 1, 0);
+    v.thing(1, 0, 0, 0);
+    Ask.due("together", v.sent(3, 10), 4);
+    Ask.due("thing 0 by the dearer one", v.sent(3, 0), 2);
+    Ask.due("thing 1", v.sent(3, 1), 1);
+    // the same by PEOPLE 6 and 7
+    HillErrands w = Ask.town(0, 96, 100, 7);
+    Ask.row(w, 0, 0, 1, 2);
+    for (int q = 0; q < 6; q++) {
+      w.person(3, 3, 0);
+    }
+    w.person(0, 2, 0);
+    w.person(2, 2, 0);
+    w.thing(6, 1, 1, 0);
+    w.thing(7, 0, 0, 0);
+    Ask.due("together", w.sent(192, 10), 4);
+    Ask.due("thing 6 by the dearer one", w.sent(192, 6), 7);
+    Ask.due("thing 7", w.sent(192, 7), 6);
     // one PERSON: the cheaper THING, though it is the second
     HillErrands y = row();
     y.person(0, 0, 0);
@@ -346,6 +374,74 @@ public final class FolkSentenceTests {
     Ask.due("nobody alone", y.sent(8, 3), 8);
     Ask.due("none", y.sent(8, -1), 0);
     Ask.due("no COST", y.sent(8, 10), 0);
+  }
+
+  /** Towns in which many rows are to be weighed: all of them are gone through here, by what brought() answers. */
+  private static void sentOfAllRows() {
+    Ask.sentence("SENT: each of some THINGS by another PERSON: most of them; of like ones at least COST together; of like ones the least row by THINGS (by nobody behind all).");
+    for (int run = 0; run < 40; run++) {
+      HillErrands x = Ask.town(0, 3, 9, 4, 30, 12, 7, 7);
+      Ask.row(x, 0, 0, 1, 2, 3, 4);
+      x.stair(4, 5, 1);
+      x.stair(5, 0, 1);
+      if (run % 2 == 0) {
+        x.stair(5, 6, 2);
+      }
+      Ask.law(x, run % 3 == 0 ? "cu+l%3(0=0)" : run % 3 == 1 ? "cu/7+l%2*d(0=0)" : "n(l>60);cu+d(0=0)");
+      int people = 1 + run % 6;
+      for (int q = 0; q < people; q++) {
+        x.person((run + 3 * q) % 8, (run * q + 5) % 7, 0);
+      }
+      int things = 2 + run % 5;
+      for (int i = 0; i < things; i++) {
+        x.thing(i, (run * 3 + i * i) % 7, (run + 2 * i) % 6, (run * 17 + 31 * i) % 100);
+      }
+      int[] row = new int[things];
+      int[] best = new int[things + 2];
+      best[things] = -1;
+      weighRows(x, row, 0, people, best);
+      int all = (1 << things) - 1;
+      Ask.due("how many, run " + run, x.sent(all, -1), best[things]);
+      Ask.due("COST, run " + run, x.sent(all, 10), best[things + 1]);
+      for (int i = 0; i < things; i++) {
+        Ask.due("THING " + i + ", run " + run, x.sent(all, i), best[i]);
+      }
+    }
+  }
+
+  /** Rows come in their order (8 for nobody), so that of like ones the first is the least; best ends with how many and COST. */
+  private static void weighRows(HillErrands x, int[] row, int at, int people, int[] best) {
+    if (at == 0) {
+      for (int q = 0; q < people; q++) {
+        for (int i = 0; i < row.length; i++) {
+          BROUGHT[q][i] = x.brought(q, i);
+        }
+      }
+    }
+    if (at == row.length) {
+      int n = 0;
+      int cost = 0;
+      for (int i = 0; i < at; i++) {
+        n += row[i] < 8 ? 1 : 0;
+        cost += row[i] < 8 ? BROUGHT[row[i]][i] : 0;
+      }
+      if (n > best[at] || n == best[at] && cost < best[at + 1]) {
+        System.arraycopy(row, 0, best, 0, at);
+        best[at] = n;
+        best[at + 1] = cost;
+      }
+      return;
+    }
+    for (int q = 0; q <= 8; q++) {
+      boolean free = q == 8 || q < people && BROUGHT[q][at] != -1000000;
+      for (int i = 0; i < at && q < 8; i++) {
+        free &= row[i] != q;
+      }
+      if (free) {
+        row[at] = q;
+        weighRows(x, row, at + 1, people, best);
+      }
+    }
   }
 
   private static void sentByOthers() {

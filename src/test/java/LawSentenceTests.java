@@ -16,6 +16,7 @@ public final class LawSentenceTests {
     lawLengths();
     lawTakesTheTape();
     lawInPlace();
+    manyLaws();
     textHasNoBlanks();
     clausesBetween();
     thirteenthClause();
@@ -206,6 +207,22 @@ public final class LawSentenceTests {
     Ask.due("ways, too", x.way(1, 0, 99, -1), 2);
     Ask.due("the first one again", Ask.law(x, "c3(1=2);c8(0=0)"), 2);
     Ask.due("ways, too", x.way(1, 0, 99, -1), 8);
+  }
+
+  /** However many texts have been read, right and faulty ones, the last right one holds as the first did. */
+  private static void manyLaws() {
+    Ask.sentence("in place of the one before: how many CLAUSES");
+    HillErrands x = rope();
+    for (int i = 0; i < 30; i++) {
+      String text = times("n(0=1);", i % 11) + "c1" + times("+1", 20 + i % 7) + "+" + i + "(0=0)";
+      Ask.due("law " + i, Ask.law(x, text), i % 11 + 1);
+      Ask.due("its price", x.going(2, true, 0), 21 + i % 7 + i);
+      if (i % 3 == 0) {
+        Ask.due("a faulty one", Ask.law(x, text + ";"), -1001 - text.length());
+        Ask.due("the price stays", x.going(2, true, 0), 21 + i % 7 + i);
+        Ask.due("CLAUSES stay", x.count(2), i % 11 + 1);
+      }
+    }
   }
 
   private static void textHasNoBlanks() {
@@ -832,6 +849,15 @@ public final class LawSentenceTests {
     fault("c[[[[[[[5]]]]]]](0=0)", -5007);
     fault("c5+[[[[[[5]]]]]](0=0)", 1);
     fault("c5+[[[[[[[", -5009);
+    for (char sign : REST_OF_SUM.toCharArray()) {
+      fault("c5" + sign + "[[[[[[5]]]]]](0=0)", 1);
+      fault("c5" + sign + "[[[[[[[", -5009);
+      fault("c[5" + sign + "[[[[[[", -5009);
+      fault("n(5" + sign + "[[[[[5]]]]]=5" + sign + "[[[[[5]]]]])", 1);
+      fault("n(5" + sign + "[[[[[[", -5009);
+      fault("n(5=5" + sign + "[[[[[[", -5011);
+      fault("n(!(5=[5" + sign + "[[[", -5011);
+    }
     fault("c[[[[[[5]]]]]]((((((0=0))))))", 1);
     fault("c[[[[[[5]]]]]](((((((0=0)))))))", -5020);
     fault("c[[[[[[5]]]]]]*[[[[[[5]]]]]](0=0)", 1);
@@ -893,7 +919,7 @@ public final class LawSentenceTests {
   // ---- promise 7
 
   private static void going() {
-    Ask.sentence("-2: it can't be (also a slide back); NONE: no such ones.");
+    Ask.sentence("What one going costs along a STAIR (back: from the second to the first)");
     HillErrands x = Ask.town(40, 0, 40);
     x.stair(0, 1, 1);
     x.stair(0, 2, 1);
@@ -907,6 +933,7 @@ public final class LawSentenceTests {
     Ask.due("a rope down", x.going(2, true, 0), 0);
     Ask.due("a stair up", x.going(3, false, 0), 40);
     Ask.due("a stair down", x.going(3, true, 0), 0);
+    Ask.sentence("-2: it can't be (also a slide back); NONE: no such ones.");
     Ask.due("no such STAIR", x.going(4, false, 0), -1);
     Ask.due("no such STAIR", x.going(-1, false, 0), -1);
     Ask.due("no such LOAD", x.going(2, false, 100), -1);

@@ -11,6 +11,8 @@ public final class RoundSentenceTests {
     roundErrands();
     roundWithoutWay();
     bestOrder();
+    bestOfEachOrder();
+    bestByLoad();
     bestOfLikeOnes();
     bestSets();
     bestWhats();
@@ -252,6 +254,79 @@ public final class RoundSentenceTests {
     }
   }
 
+  /** A ring that one can go in one direction alone: the errands are best done as they stand in it. */
+  private static void bestOfEachOrder() {
+    Ask.sentence("BEST: the order of least COST;");
+    int[][] orders = {{0, 1, 2}, {0, 2, 1}, {1, 0, 2}, {1, 2, 0}, {2, 0, 1}, {2, 1, 0}, {0, 1, 2, 3, 4, 5, 6, 7},
+        {7, 6, 5, 4, 3, 2, 1, 0}, {3, 0, 7, 5, 1, 6, 2, 4}, {4, 7, 1, 0, 6, 3, 5, 2}};
+    for (int[] order : orders) {
+      int n = order.length;
+      HillErrands x = Ask.level(n + 1);
+      for (int p = 0; p <= n; p++) {
+        x.stair(p, (p + 1) % (n + 1), 1);
+      }
+      Ask.law(x, "c1(0=0)");
+      for (int i = 0; i < n; i++) {
+        x.errand(order[i], i + 1, 12, 1);
+      }
+      int all = (1 << n) - 1;
+      Ask.due("COST", x.best(0, all, -1), n + 1);
+      Ask.due("SEPARATE", x.best(0, all, 10), n * (n + 1));
+      for (int i = 0; i < n; i++) {
+        Ask.due("ERRAND at " + i, x.best(0, all, i), order[i]);
+      }
+      Ask.due("a day", x.day(0, n + 1, 1), all);
+      Ask.due("a day's COST", x.day(0, n + 1, 2), n + 1);
+      Ask.due("a day of one step less", x.day(0, n, 1), 0);
+      Ask.due("once round more", Ask.round(x, 0, order[1], order[0]), 2 * (n + 1));
+    }
+  }
+
+  /** What is the next one best hangs on what the load makes of the ways, not on the ways without it. */
+  private static void bestByLoad() {
+    Ask.sentence("from HOME with LOAD 0 to the first one, with its WEIGHT more to the next, and so on, and home: COSTS together.");
+    int[][] stairs = {{0, 1}, {1, 2}, {1, 3}, {2, 3}, {2, 0}, {3, 0}};
+    int[][] orders = {{0, 1, 2}, {0, 2, 1}, {1, 0, 2}, {1, 2, 0}, {2, 0, 1}, {2, 1, 0}};
+    for (int load = 0; load < 4; load++) {
+      HillErrands x = Ask.level(4);
+      for (int[] s : stairs) {
+        x.stair(s[0], s[1], 0);
+      }
+      for (int i = 0; i < 3; i++) {
+        x.errand(i, i + 1, 1, 1);
+      }
+      for (int s = 0; s < 6; s++) {
+        Ask.law(x, "c9(s=" + s + "&l=" + load + ");c1(0=0)");
+        int least = Integer.MAX_VALUE;
+        int[] due = null;
+        for (int[] order : orders) {
+          int cost = loadedCost(order, stairs[s], load);
+          if (cost < least) {
+            least = cost;
+            due = order;
+          }
+        }
+        Ask.due("STAIR " + s + " dear with LOAD " + load, x.best(0, 7, -1), least);
+        for (int i = 0; i < 3; i++) {
+          Ask.due("ERRAND at " + i, x.best(0, 7, i), due[i]);
+        }
+        Ask.due("a day's COST", x.day(0, 99999, 2), least);
+      }
+    }
+  }
+
+  /** Each two places are 1 apart, or 2 if the stair between them is dear with this load. */
+  private static int loadedCost(int[] order, int[] dear, int load) {
+    int[] row = {0, order[0] + 1, order[1] + 1, order[2] + 1, 0};
+    int cost = 0;
+    for (int i = 1; i < row.length; i++) {
+      boolean here = Math.min(row[i - 1], row[i]) == Math.min(dear[0], dear[1])
+          && Math.max(row[i - 1], row[i]) == Math.max(dear[0], dear[1]);
+      cost += here && load == i - 1 ? 2 : 1;
+    }
+    return cost;
+  }
+
   private static void bestOfLikeOnes() {
     Ask.sentence("of like ones the least row.");
     HillErrands x = loaded();
@@ -374,6 +449,9 @@ public final class RoundSentenceTests {
   private static void dayBounds() {
     Ask.sentence("A DAY of so many steps (0 to 99999)");
     HillErrands x = three();
+    Ask.due("0", x.day(0, 0, 0), 0);
+    Ask.due("99999", x.day(0, 99999, 0), 30);
+    Ask.sentence("2 what their ROUND costs; NONE: no such ones.");
     Ask.due("100000", x.day(0, 100000, 0), -1);
     Ask.due("-1", x.day(0, -1, 0), -1);
     Ask.due("what 3", x.day(0, 0, 3), -1);
@@ -386,8 +464,7 @@ public final class RoundSentenceTests {
       Ask.due("steps " + far, x.day(0, far, 0), -1);
       Ask.due("what " + far, x.day(0, 0, far), -1);
     }
-    Ask.due("99999", x.day(0, 99999, 0), 30);
-    Ask.due("0", x.day(0, 0, 0), 0);
+    Ask.sentence("A DAY of so many steps (0 to 99999)");
     // a round of 99999 steps, and one of 100000
     HillErrands y = Ask.level(12);
     Ask.row(y, 0, 0, 1, 2, 3, 4, 5, 6, 7, 8, 9, 10, 11);
@@ -421,6 +498,11 @@ public final class RoundSentenceTests {
     Ask.due("all for 17", x.day(0, 99999, 2), x.best(0, 131, -1));
     x.errand(2, 0, 9, 1);
     Ask.due("a WORTH of 1 more", x.day(0, 99999, 1), 135);
+    HillErrands one = loaded();
+    one.errand(4, 1, 0, 1);
+    Ask.due("a WORTH of 1 alone", one.day(0, 2, 1), 16);
+    Ask.due("a WORTH of 1 alone", one.day(0, 2, 0), 1);
+    Ask.due("a WORTH of 1 alone", one.day(0, 2, 2), 2);
     HillErrands y = loaded();
     for (int i = 0; i < 8; i++) {
       y.errand(i, 1, 0, 999);

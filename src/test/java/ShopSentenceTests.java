@@ -17,6 +17,7 @@ public final class ShopSentenceTests {
     themselvesRounds();
     themselvesOutOfReach();
     oneMoreCosts();
+    oneMoreJoins();
     oneMoreOfLikeOnes();
     oneMoreSlides();
     oneMoreLaw();
@@ -263,6 +264,9 @@ public final class ShopSentenceTests {
     Ask.due("no b 3", y.themselves(60, 2, 0), -1);
     Ask.due("no c 3", y.themselves(1200, 3, 0), -1);
     Ask.due("no a 19", y.themselves(19, 3, 0), -1);
+    Ask.sentence("BY THEMSELVES: n SHOPS (2 or 3) at told PLACES");
+    Ask.due("n 2", y.themselves(0, 2, 0), 0);
+    Ask.due("n 3", y.themselves(0, 3, 0), 0);
     Ask.due("n 1", y.themselves(0, 1, 0), -1);
     Ask.due("n 0", y.themselves(0, 0, 0), -1);
     Ask.due("n 4", y.themselves(0, 4, 0), -1);
@@ -495,6 +499,41 @@ public final class ShopSentenceTests {
     Ask.due("dear, LOAD 0", y.oneMore(0, 2), 9999);
     Ask.law(y, "n(0=0)");
     Ask.due("none can be", y.oneMore(0, 2), 1000);
+  }
+
+  /** STAIRS ahead of the new one and behind it count as one goes them, and so does what is there without it. */
+  private static void oneMoreJoins() {
+    Ask.sentence("the COSTS of all PEOPLE from beginning to end");
+    int[][] towns = {{0, 10, 20, 30, 40, 50}, {50, 40, 30, 20, 10, 0}};
+    for (int t = 0; t < 2; t++) {
+      for (int turned = 0; turned < 2; turned++) {
+        HillErrands x = Ask.town(towns[t]);
+        Ask.row(x, 0, 0, 1, 2);
+        Ask.row(x, 0, 3, 4, 5);
+        Ask.law(x, "n(s=4&!(f=2&g=3|f=3&g=2));cu+l*500(0=0)");
+        x.person(5 * turned, 5 - 5 * turned, 0);
+        Ask.due("between 2 and 3 alone", x.oneMore(0, 2), t == turned ? 50 : 0);
+        Ask.due("first", x.oneMore(0, 0), 2);
+        Ask.due("second", x.oneMore(0, 1), 3);
+        Ask.law(x, "n(s=4&!(f=2&g=3));cu+l*500(0=0)");
+        Ask.due("from 2 to 3 alone", x.oneMore(0, 2), turned == 1 ? 1000 : t == 0 ? 50 : 0);
+        Ask.law(x, "n(s=4&!(f=3&g=2));cu+l*500(0=0)");
+        Ask.due("from 3 to 2 alone", x.oneMore(0, 2), turned == 0 ? 1000 : t == 0 ? 0 : 50);
+      }
+    }
+    for (int turned = 0; turned < 2; turned++) {
+      HillErrands y = Ask.town(0, 10);
+      y.stair(0, 1, 0);
+      y.person(turned, 1 - turned, 0);
+      Ask.law(y, "n(s=1);cu+l*3(0=0)");
+      Ask.due("the new one can't be", y.oneMore(0, 2), 10 - 10 * turned);
+      Ask.law(y, "c3(s=1);c9+l(0=0)");
+      Ask.due("the new one", y.oneMore(0, 2), 3);
+      Ask.law(y, "c20(s=1);c9-l(0=0)");
+      Ask.due("the one that is there", y.oneMore(0, 2), 9);
+      Ask.law(y, "c5+l*2(s=1);n(s=0)");
+      Ask.due("the new one with LOAD 0", y.oneMore(0, 2), 5);
+    }
   }
 
   private static void oneMoreOfLikeOnes() {

@@ -254,6 +254,7 @@ public final class TownSentenceTests {
     x.stair(0, 1, 0);
     Ask.due("at first", x.count(4), 0);
     for (int w = 3; w >= 0; w--) {
+      Ask.sentence("SEASON: true; false: no such one.");
       Ask.due("season", x.season(w), true);
       Ask.due("count(4)", x.count(4), w);
       Ask.due("4", x.season(4), false);
