@@ -1,4 +1,7 @@
 import java.io.IOException;
+import java.util.ArrayList;
+import java.util.Arrays;
+import java.util.List;
 
 /** The sentences about errands, rounds, days and drawings: promises 9 to 12, 27 and 28. */
 public final class RoundSentenceTests {
@@ -12,7 +15,7 @@ public final class RoundSentenceTests {
     roundWithoutWay();
     bestOrder();
     bestOfEachOrder();
-    bestByLoad();
+    bestOfAllOrders();
     bestOfLikeOnes();
     bestSets();
     bestWhats();
@@ -282,49 +285,84 @@ public final class RoundSentenceTests {
     }
   }
 
-  /** What is the next one best hangs on what the load makes of the ways, not on the ways without it. */
-  private static void bestByLoad() {
-    Ask.sentence("from HOME with LOAD 0 to the first one, with its WEIGHT more to the next, and so on, and home: COSTS together.");
-    int[][] stairs = {{0, 1}, {1, 2}, {1, 3}, {2, 3}, {2, 0}, {3, 0}};
-    int[][] orders = {{0, 1, 2}, {0, 2, 1}, {1, 0, 2}, {1, 2, 0}, {2, 0, 1}, {2, 1, 0}};
-    for (int load = 0; load < 4; load++) {
-      HillErrands x = Ask.level(4);
-      for (int[] s : stairs) {
-        x.stair(s[0], s[1], 0);
-      }
-      for (int i = 0; i < 3; i++) {
-        x.errand(i, i + 1, 1, 1);
-      }
-      for (int s = 0; s < 6; s++) {
-        Ask.law(x, "c9(s=" + s + "&l=" + load + ");c1(0=0)");
-        int least = Integer.MAX_VALUE;
-        int[] due = null;
-        for (int[] order : orders) {
-          int cost = loadedCost(order, stairs[s], load);
-          if (cost < least) {
-            least = cost;
-            due = order;
-          }
+  /** Towns in which the load turns the orders round: all orders of all sets are asked by round(). */
+  private static void bestOfAllOrders() {
+    for (int run = 0; run < 60; run++) {
+      HillErrands x = mixedTown(run);
+      int[] cost = new int[16];
+      int[][] row = new int[16][];
+      for (int[] order : orders(4)) {
+        Ask.tape(x, order);
+        int set = 0;
+        for (int e : order) {
+          set |= 1 << e;
         }
-        Ask.due("STAIR " + s + " dear with LOAD " + load, x.best(0, 7, -1), least);
-        for (int i = 0; i < 3; i++) {
-          Ask.due("ERRAND at " + i, x.best(0, 7, i), due[i]);
+        int so = x.round(0, order.length);
+        if (so >= 0 && (row[set] == null || so < cost[set])) {
+          cost[set] = so;
+          row[set] = order;
         }
-        Ask.due("a day's COST", x.day(0, 99999, 2), least);
+      }
+      Ask.sentence("BEST: the order of least COST; of like ones the least row.");
+      for (int set = 1; set < 16; set++) {
+        Ask.due("COST of " + set + ", run " + run, x.best(0, set, -1), row[set] == null ? -2 : cost[set]);
+        for (int i = 0; i < Integer.bitCount(set); i++) {
+          Ask.due("ERRAND at " + i + " of " + set + ", run " + run, x.best(0, set, i), row[set] == null ? -2 : row[set][i]);
+        }
+      }
+      Ask.sentence("of like ones of least COST, then the least set.");
+      for (int steps : new int[] {0, 5, 9, 14, 20, 30, 50, 99999}) {
+        int found = 0;
+        for (int set = 1; set < 16; set++) {
+          boolean more = mixedWorth(set) > mixedWorth(found) || mixedWorth(set) == mixedWorth(found) && cost[set] < cost[found];
+          found = row[set] != null && cost[set] <= steps && more ? set : found;
+        }
+        Ask.due("WORTH by " + steps + ", run " + run, x.day(0, steps, 0), mixedWorth(found));
+        Ask.due("set by " + steps + ", run " + run, x.day(0, steps, 1), found);
+        Ask.due("COST by " + steps + ", run " + run, x.day(0, steps, 2), cost[found]);
       }
     }
   }
 
-  /** Each two places are 1 apart, or 2 if the stair between them is dear with this load. */
-  private static int loadedCost(int[] order, int[] dear, int load) {
-    int[] row = {0, order[0] + 1, order[1] + 1, order[2] + 1, 0};
-    int cost = 0;
-    for (int i = 1; i < row.length; i++) {
-      boolean here = Math.min(row[i - 1], row[i]) == Math.min(dear[0], dear[1])
-          && Math.max(row[i - 1], row[i]) == Math.max(dear[0], dear[1]);
-      cost += here && load == i - 1 ? 2 : 1;
+  private static int mixedWorth(int set) {
+    return (set & 1) + 2 * (set >> 1 & 1) + 3 * (set >> 2 & 1) + 3 * (set >> 3 & 1);
+  }
+
+  private static HillErrands mixedTown(int run) {
+    HillErrands x = Ask.town(0, 2, 5, 1, 9);
+    Ask.row(x, 0, 0, 1, 2, 4);
+    Ask.row(x, 2, 0, 3, 4);
+    x.stair(2, 3, run % 2);
+    x.stair(4, 1, 1);
+    String[] laws = {"cu+l%5(0=0)", "c1+l*[s%3](0=0)", "n(l>9&k=2);cu+l/3(0=0)", "c1+[l*7+s]%4(0=0)", "c9(l=3);n(l=7&s=1);c1+k(0=0)"};
+    Ask.law(x, laws[run % 5]);
+    int[] weights = {run * 5 % 13, run * 7 % 11 + 1, 3 + run % 4, run % 2 * 7 + 1};
+    for (int i = 0; i < 4; i++) {
+      x.errand(i, (run / 3 + i * (1 + run % 3)) % 5, weights[i], mixedWorth(1 << i));
     }
-    return cost;
+    return x;
+  }
+
+  /** All rows of different numbers below n, in their order. */
+  private static List<int[]> orders(int n) {
+    List<int[]> all = new ArrayList<>();
+    addOrders(all, new int[0], n);
+    return all;
+  }
+
+  private static void addOrders(List<int[]> all, int[] row, int n) {
+    for (int e = 0; e < n; e++) {
+      boolean fresh = true;
+      for (int before : row) {
+        fresh &= before != e;
+      }
+      if (fresh) {
+        int[] longer = Arrays.copyOf(row, row.length + 1);
+        longer[row.length] = e;
+        all.add(longer);
+        addOrders(all, longer, n);
+      }
+    }
   }
 
   private static void bestOfLikeOnes() {

@@ -609,6 +609,12 @@ public final class ShopSentenceTests {
       Ask.law(x, "c10*k+s+1(0=0)");
       Ask.due("its SORT, the number that is due", x.oneMore(sort, 2), 10 * sort + 1);
     }
+    HillErrands down = Ask.town(0, 50);
+    down.person(1, 0, 0);
+    Ask.law(down, "c10*k+s+1(0=0)");
+    for (int sort = 0; sort < 3; sort++) {
+      Ask.due("its SORT back", down.oneMore(sort, 2), 10 * sort + 1);
+    }
     Ask.law(x, "n(k=2);c7(w=0);c8(w=3)");
     Ask.due("a rope can't be", x.oneMore(2, 2), 1000);
     Ask.due("a stair can", x.oneMore(0, 2), 7);
