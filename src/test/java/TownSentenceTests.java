@@ -1,4 +1,5 @@
 import java.io.IOException;
+import java.util.Arrays;
 
 /** The sentences about places, stairs, season, ways, what is kept, checks and counts: promises 1 to 4, 8 and 29 to 32. */
 public final class TownSentenceTests {
@@ -607,9 +608,15 @@ public final class TownSentenceTests {
       full.stair(p - 1, p, 0);
     }
     Ask.due("all 20", Ask.check(full, 0, all), -1);
+    int[] more = Arrays.copyOf(all, 21);
+    more[20] = 7;
+    Ask.due("a 21st number of 20", Ask.check(full, 0, more), 20);
+    int[] down = new int[21];
+    down[20] = 7;
+    Ask.due("a 21st number of 20, from the last PLACE", Ask.check(full, 19, down), 20);
     all[19]++;
     Ask.due("the 20th", Ask.check(full, 0, all), 19);
-    Ask.due("19 of 20", Ask.check(full, 0, java.util.Arrays.copyOf(all, 19)), 19);
+    Ask.due("19 of 20", Ask.check(full, 0, Arrays.copyOf(all, 19)), 19);
   }
 
   private static void checkedNumbers() {
